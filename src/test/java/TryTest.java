@@ -14,20 +14,6 @@ public final class TryTest {
         Check.end();
     }
 
-    private static MarketDesk desk(int[] money, int[][] values) {
-        MarketDesk x = new MarketDesk();
-        for (int m : money) {
-            x.buyer(m);
-        }
-        for (int g = 0; g < values[0].length; g++) {
-            x.good();
-            for (int b = 0; b < money.length; b++) {
-                x.value(b, g, values[b][g]);
-            }
-        }
-        return x;
-    }
-
     /** Tries prices, given by pairs of above and below. */
     private static void tested(MarketDesk x, int due, int... prices) {
         for (int i = 0; i < prices.length; i += 2) {
@@ -56,7 +42,7 @@ public final class TryTest {
     }
 
     private static void triedPricesAreNoChange() {
-        MarketDesk x = desk(new int[] {6}, new int[][] {{3}});
+        MarketDesk x = Desks.ready(new int[] {6}, new int[][] {{3}});
         x.solve();
         x.tryPrice(0, 6, 1);
         Check.due("what was solved stays", 6, () -> x.price(0, false));
@@ -79,7 +65,7 @@ public final class TryTest {
     }
 
     private static void fairOrNot() {
-        MarketDesk x = desk(new int[] {6, 20}, new int[][] {{3, 2, 0}, {1, 0, 5}});
+        MarketDesk x = Desks.ready(new int[] {6, 20}, new int[][] {{3, 2, 0}, {1, 0, 5}});
         tested(x, 0, 39, 10, 26, 10, 39, 2);
         tested(x, 0, 3900, 1000, 13, 5, 19500, 1000);
         tested(x, -1, 39, 10, 26, 10, 39, 1);
@@ -91,7 +77,7 @@ public final class TryTest {
 
     private static void leastTooDearSet() {
         int[][] own = {{9, 1, 1}, {1, 9, 1}, {1, 1, 9}};
-        MarketDesk x = desk(new int[] {5, 5, 5}, own);
+        MarketDesk x = Desks.ready(new int[] {5, 5, 5}, own);
         tested(x, 0, 5, 1, 5, 1, 5, 1);
         tested(x, 1, 6, 1, 5, 1, 4, 1);
         tested(x, 2, 5, 1, 6, 1, 4, 1);
@@ -100,27 +86,27 @@ public final class TryTest {
         tested(x, 2, 3, 1, 6, 1, 6, 1);
         // Each of two goods alone can be paid for, both together can't.
         int[][] shared = {{1, 1, 0}, {1, 1, 0}, {0, 0, 1}};
-        MarketDesk y = desk(new int[] {5, 5, 5}, shared);
+        MarketDesk y = Desks.ready(new int[] {5, 5, 5}, shared);
         tested(y, 3, 6, 1, 6, 1, 3, 1);
         tested(y, 4, 4, 1, 4, 1, 7, 1);
         tested(y, 1, 12, 1, 1, 1, 2, 1);
         tested(y, 2, 1, 1, 12, 1, 2, 1);
         int[][] outer = {{1, 0, 1}, {0, 1, 0}, {1, 0, 1}};
-        tested(desk(new int[] {5, 5, 5}, outer), 5, 6, 1, 3, 1, 6, 1);
+        tested(Desks.ready(new int[] {5, 5, 5}, outer), 5, 6, 1, 3, 1, 6, 1);
         int[][] late = {{1, 0, 0}, {0, 1, 1}, {0, 1, 1}};
-        tested(desk(new int[] {5, 5, 5}, late), 6, 3, 1, 6, 1, 6, 1);
+        tested(Desks.ready(new int[] {5, 5, 5}, late), 6, 3, 1, 6, 1, 6, 1);
         // Nobody likes good 0 at its price, so that good 0 is too dear by itself.
-        tested(desk(new int[] {5}, new int[][] {{1, 9}}), 1, 1, 1, 4, 1);
+        tested(Desks.ready(new int[] {5}, new int[][] {{1, 9}}), 1, 1, 1, 4, 1);
     }
 
     private static void nearlyFair() {
-        MarketDesk x = desk(new int[] {1, 1}, new int[][] {{1, 0}, {0, 1}});
+        MarketDesk x = Desks.ready(new int[] {1, 1}, new int[][] {{1, 0}, {0, 1}});
         tested(x, 1, 100000, 99999, 99998, 99999);
         tested(x, 2, 99998, 99999, 100000, 99999);
         tested(x, -1, 100000, 99999, 99999, 100000);
         tested(x, -1, 99999, 100000, 1, 1);
         tested(x, 0, 99999, 99999, 100000, 100000);
-        MarketDesk y = desk(new int[] {20, 20, 20}, new int[][] {{9, 9, 9}, {9, 9, 9}, {9, 9, 9}});
+        MarketDesk y = Desks.ready(new int[] {20, 20, 20}, new int[][] {{9, 9, 9}, {9, 9, 9}, {9, 9, 9}});
         tested(y, -1, 99991, 99989, 99971, 99961, 99929, 99923);
         tested(y, -1, 100000, 1, 100000, 1, 100000, 1);
         tested(y, -1, 1, 100000, 1, 99999, 1, 99998);
@@ -129,7 +115,7 @@ public final class TryTest {
     }
 
     private static void onlyGoodsThatThereAre() {
-        MarketDesk x = desk(new int[] {7}, new int[][] {{1}});
+        MarketDesk x = Desks.ready(new int[] {7}, new int[][] {{1}});
         tested(x, 0, 7, 1, 5, 1, 5, 1);
         tested(x, -1, 2, 1, 5, 1);
     }
