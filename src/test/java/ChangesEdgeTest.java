@@ -20,7 +20,7 @@ public final class ChangesEdgeTest {
         Check.same(what + " undone", Picture.whole(Desks.small()), Picture.whole(x));
     }
 
-    /** "A CHANGE .. is a call of buyer, good, money, value or join that is not refused (also if it says what there is)." */
+    /** "A CHANGE .. is a call of buyer, good, money, value or join .. (also if it says what there is)." */
     private static void changeAlsoIfItSaysWhatThereIs() {
         change("buyer", x -> x.buyer(1));
         change("good", x -> x.good());

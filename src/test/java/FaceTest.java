@@ -43,7 +43,8 @@ public final class FaceTest {
         TreeSet<String> got = new TreeSet<>();
         for (Method method : MarketDesk.class.getDeclaredMethods()) {
             if (!Modifier.isPrivate(method.getModifiers())) {
-                got.add(Modifier.toString(method.getModifiers()).equals("public") ? signature(method) : method.toString());
+                boolean plain = Modifier.toString(method.getModifiers()).equals("public");
+                got.add(plain ? signature(method) : method.toString());
             }
         }
         Check.same("methods of the face", due, got);

@@ -245,6 +245,8 @@ public final class MarketEdgeTest {
             Refused.argument("join out of proportion with two buyers", () -> Desks.ready(new int[] {1, 2}, pair),
                 x -> x.join(0, 1));
         }
+        Refused.argument("join out of proportion when solved", () -> Desks.solved(new int[] {1, 2}, pairs[0]),
+            x -> x.join(0, 1));
     }
 
     /** Promise 6: no buyer, no value: two goods become one. */
@@ -343,7 +345,7 @@ public final class MarketEdgeTest {
         return x;
     }
 
-    /** Promise 7: "IllegalStateException when there is none": nothing yet, and nothing any more; what is solved stays. */
+    /** Promise 7: "IllegalStateException when there is none": nothing yet, and nothing any more. */
     private static void undoOfNone() {
         Refused.state("undo of nothing yet", MarketDesk::new, x -> x.undo());
         Refused.state("undo of a ninth", MarketEdgeTest::fullUndone, x -> x.undo());

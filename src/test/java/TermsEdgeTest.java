@@ -222,7 +222,7 @@ public final class TermsEdgeTest {
         Check.due("next to each other", "001", () -> Answers.likes(least, 2));
     }
 
-    /** "Prices are FAIR, if .. each spends all of it, on goods that they like alone, and .. just its price is spent." */
+    /** "Prices are FAIR, if .. each spends all of it, .. and on each good just its price is spent." */
     private static void fairWhenAllIsSpent() {
         // Buyer 0 has just enough for good 0 alone, in the second market one too much: both prices move.
         MarketDesk just = Desks.solved(new int[] {5, 10}, new int[][] {{1, 2}, {0, 9}});
@@ -253,10 +253,15 @@ public final class TermsEdgeTest {
             Check.due("rising money", dueRising[b], () -> spending(rising, buyer));
             Check.due("falling money", dueFalling[b], () -> spending(falling, buyer));
         }
+        // Only buyer 0 likes good 2, and has just its price: nothing is left for goods 0 and 1.
+        MarketDesk last = Desks.solved(new int[] {4, 4, 4}, new int[][] {{1, 1, 1}, {1, 1, 0}, {1, 1, 0}});
+        Check.due("most on good 0 is nothing", "0/1 0/1 4/1", () -> spending(last, 0));
+        Check.due("then buyer 1 on good 0", "4/1 0/1 0/1", () -> spending(last, 1));
     }
 
     private static String spending(MarketDesk x, int buyer) {
-        return Answers.spent(x, buyer, 0, 0) + " " + Answers.spent(x, buyer, 1, 0) + " " + Answers.spent(x, buyer, 2, 0);
+        String first = Answers.spent(x, buyer, 0, 0);
+        return first + " " + Answers.spent(x, buyer, 1, 0) + " " + Answers.spent(x, buyer, 2, 0);
     }
 
     /** "A SET of goods is TOO DEAR .., if their prices together are more than the money": just as much is not. */

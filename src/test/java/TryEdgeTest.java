@@ -15,6 +15,7 @@ public final class TryEdgeTest {
         testOfTiesNearly();
         testOfTheLeastSet();
         testOfGoodsThatThereAre();
+        testOfSumsThatWrap();
         testOfTheLargestNumbers();
         Check.end();
     }
@@ -242,6 +243,17 @@ public final class TryEdgeTest {
         x.undo();
         x.undo();
         Check.due("two count", 0, () -> x.test());
+    }
+
+    /** Promise 17: sums that differ by whole numbers of 2^32 parts, so that an int could not tell them apart. */
+    private static void testOfSumsThatWrap() {
+        MarketDesk x = Desks.ready(new int[] {1}, new int[][] {{1, 1}});
+        Answers.dueTest(x, -1, 65536, 65536, 65536, 65536);
+        Answers.dueTest(x, 0, 32768, 65536, 32768, 65536);
+        x.good();
+        x.value(0, 2, 2);
+        Answers.dueTest(x, -1, 65536, 65536, 65536, 65536, 65536, 65536);
+        Answers.dueTest(x, 0, 16384, 65536, 16384, 65536, 32768, 65536);
     }
 
     /** Promise 17: the largest numbers above and below the line together. */
