@@ -33,6 +33,7 @@ public final class FaceTest {
 
     public static void main(String[] args) throws Exception {
         faceIsThatOfTheDocument();
+        headersAreThoseOfTheDocument();
         nothingElseIsSeen();
         sourceKeepsToTheLanguage();
         Check.end();
@@ -52,6 +53,21 @@ public final class FaceTest {
         Constructor<?>[] constructors = MarketDesk.class.getDeclaredConstructors();
         Check.same("constructors", 1, constructors.length);
         Check.same("the constructor", "public MarketDesk()", constructors[0].toString());
+    }
+
+    /** Word for word, with the names of what is given to a call. */
+    private static void headersAreThoseOfTheDocument() throws Exception {
+        String document = Files.readString(Path.of("../shared/DOC.md"));
+        String source = Files.readString(Path.of("src/main/java/MarketDesk.java")).replaceAll("\\s+", " ");
+        int begin = document.indexOf("```java\n") + 8;
+        String[] lines = document.substring(begin, document.indexOf("```", begin)).split("\n");
+        for (String line : lines) {
+            if (line.contains("public")) {
+                String header = line.trim().replace(";", " {");
+                Check.same("in the source: " + header, true, source.contains(header));
+            }
+        }
+        Check.same("lines of the face", FACE.length + 3, lines.length);
     }
 
     private static String signature(Method method) {
